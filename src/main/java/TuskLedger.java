@@ -106,9 +106,8 @@ public final class TuskLedger {
 
     private final int[] tape = new int[MOST_BYTES];
     private int tapeLength;
+    private final Reader reader = new Reader();
     private Story told = new Story();
-    private Story draft = new Story();
-    private final Reader reader = new Reader(draft);
     private final World now = new World();
     private final World trial = new World();
     private final World image = new World();
@@ -145,12 +144,10 @@ public final class TuskLedger {
             return REFUSAL;
         }
         tapeLength = 0;
-        if (!reader.read(tape, n, draft)) {
+        if (!reader.read(tape, n)) {
             return NONE;
         }
-        Story other = told;
-        told = draft;
-        draft = other;
+        told = reader.exchange(told);
         now.copyFrom(told.start);
         sights.forget();
         past.count = 0;
@@ -914,15 +911,15 @@ public final class TuskLedger {
             int top = 0;
             for (int i = 0; i < length && i < MOST_KNOTS; i++) {
                 int code = codes[i];
-                int joined = joinedBy(code);
-                int at = top - joined;
+                int parts = partsOf(code);
+                int at = top - parts;
                 if (at < 0 || at >= MOST_KNOTS || top > MOST_KNOTS) {
                     return ERROR;
                 }
                 long value;
-                if (joined == 0) {
+                if (parts == 0) {
                     value = leaf(code, names);
-                } else if (joined == 1) {
+                } else if (parts == 1) {
                     value = stack[at] == 0 ? 1 : 0;
                 } else {
                     value = joinedValue(code, stack[at], stack[top - 1]);
@@ -936,7 +933,7 @@ public final class TuskLedger {
             return top == 1 ? stack[0] : ERROR;
         }
 
-        private static int joinedBy(int code) {
+        private static int partsOf(int code) {
             if (code >= NUMBER_CODE || code >= FIRST_NAME && code <= LAST_NAME) {
                 return 0;
             }
@@ -1146,18 +1143,20 @@ public final class TuskLedger {
     /** Reads a text into a story; behind the first fault every step does nothing more. */
     private static final class Reader {
         private final Tokens tokens = new Tokens();
-        private Story story;
+        private Story story = new Story();
         private int at;
         int fault;
         int place = NONE;
 
-        Reader(Story draft) {
-            story = draft;
+        /** The story that was read, for one whose rows the next text can use again. */
+        Story exchange(Story old) {
+            Story read = story;
+            story = old;
+            return read;
         }
 
-        boolean read(int[] bytes, int n, Story draft) {
+        boolean read(int[] bytes, int n) {
             tokens.scan(bytes, n);
-            story = draft;
             story.empty();
             at = 0;
             fault = 0;
