@@ -1452,10 +1452,13 @@ public final class TuskLedger {
                 return;
             }
             int kind = kind();
-            if (kind == LEFT) {
-                readBracket(brackets, law);
-            } else if (kind == NUMBER && value() > MOST_NUMBER) {
+            boolean isTooMuch = kind == LEFT ? brackets >= MOST_BRACKETS : kind == NUMBER && value() > MOST_NUMBER;
+            if (isTooMuch) {
                 refuse(TOO_MUCH);
+            } else if (kind == LEFT) {
+                step();
+                readLevel(OR_LEVEL, brackets + 1, law);
+                take(RIGHT);
             } else if (kind == NUMBER) {
                 law.add(NUMBER_CODE + value());
                 takeKnot();
@@ -1465,16 +1468,6 @@ public final class TuskLedger {
             } else {
                 refuse(NOT_A_TOKEN);
             }
-        }
-
-        private void readBracket(int brackets, Law law) {
-            if (brackets >= MOST_BRACKETS) {
-                refuse(TOO_MUCH);
-                return;
-            }
-            step();
-            readLevel(OR_LEVEL, brackets + 1, law);
-            take(RIGHT);
         }
     }
 

@@ -127,6 +127,11 @@ public final class AheadTest {
         x.go(1);
         PROBE.due("u alone", x.keep(0, 4), 2);
         PROBE.due("u and v, and it is paid", x.keep(0, 5), 6);
+        // Or all six.
+        x = PROBE.told("man a 99;man b 0;tusk t 1 0;tusk u 1 0;tusk v 1 0;tusk w 1 0;tusk x 1 0;tusk y 1 0;"
+            + "debt a b 9 t 0;dies t 5;dies u 5;dies v 5;dies w 5;dies x 5;dies y 5;law pay known=6;");
+        x.go(1);
+        PROBE.due("all six", x.keep(0, 5), 63);
         // Nobody needs to remember what is paid this day.
         x = PROBE.told("man a 99;man b 0;tusk t 1 0;debt a b 9 t 0;law pay day>=1;");
         x.go(1);
@@ -237,6 +242,8 @@ public final class AheadTest {
         PROBE.due("rest", x.rest(0, 1, 0), 0);
         PROBE.due("rest", x.rest(0, 1, 1), 10);
         PROBE.due("rest", x.rest(0, 1, 2), -2);
+        PROBE.due("rests", x.rests(1, 0), 2);
+        PROBE.due("rest", x.rest(1, 0, 1), 1);
     }
 
     /** The purse is 10, owed are 6 and 4: asking at once has 5, waiting alone 6 less 1: as much. */

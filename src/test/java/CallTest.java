@@ -71,6 +71,8 @@ public final class CallTest {
         PROBE.due("a dead one", x.lean(2, 0), -1);
         PROBE.due("no such one", x.lean(0, 3), -1);
         PROBE.due("no such one", x.lean(-1, 0), -1);
+        PROBE.due("no such one", x.lean(0, 33), -1);
+        PROBE.due("no such one", x.lean(33, 0), -1);
     }
 
     private static void paying() {

@@ -236,6 +236,9 @@ public final class DayTest {
         PROBE.due("u: 0", x.tusk(1, 2), 1);
         PROBE.due("v: the first number is 0, below 1", x.tusk(2, 2), 0);
         PROBE.due("w: above 100 is 100", x.tusk(3, 2), 0);
+        x = PROBE.told("tusk w 51 0;tusk v 50 0;law die (age=51)*1+(age>51)*100;");
+        x.go(10);
+        PROBE.due("no number of w, so v has the first one", x.tusk(1, 2), 0);
         // Without a law: age less 60, of the age that it grew to.
         x = PROBE.told("tusk t 60 0;tusk u 59 0;");
         x.go(10);

@@ -6,6 +6,7 @@ public final class TextTest {
         newObject();
         feeding();
         tapeOfText();
+        cutTexts();
         whatTextChanges();
         whatAFaultLeaves();
         words();
@@ -64,6 +65,23 @@ public final class TextTest {
         Probe.feed(x, "man a 5;man a 5;");
         PROBE.due("text(16)", x.text(16), -1);
         PROBE.due("the tape is empty behind a fault", x.text(1), -2);
+    }
+
+    /** What is on the tape behind the first n bytes is no part of the text. */
+    private static void cut(String text, int n, int fault, int place) {
+        TuskLedger x = new TuskLedger();
+        Probe.feed(x, text);
+        PROBE.due("text(" + n + ") of " + text, x.text(n), -1);
+        PROBE.due("fault(0) of that", x.fault(0), fault);
+        PROBE.due("fault(1) of that", x.fault(1), place);
+    }
+
+    private static void cutTexts() {
+        cut("law pay 1;", 2, 1, 0);
+        cut("man abcdefg 1;", 10, 1, 10);
+        cut("man a 1000;", 9, 1, 9);
+        cut("man a 1;", 7, 1, 7);
+        cut("law pay 1<=2;", 10, 1, 10);
     }
 
     private static final String WORLD = "man a 50;man b 0;tusk t 9 0;tusk u 9 0;debt a b 5 t 0;law pay 0;";
