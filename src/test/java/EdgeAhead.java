@@ -79,6 +79,14 @@ final class EdgeAhead {
         }
         probe.due("nothing went by", x.count(4), 1);
         probe.due("nothing was paid", x.count(6), 1);
+        // Each elephant learns of what is lent before it, and of what is passed on to it.
+        String herd = "man a 99;man b 0;" + HERD + "tusk w 1 0;tusk x 1 0;tusk y 1 0;law pay 0;";
+        for (String name : new String[] {"t", "u", "v", "w", "x", "y"}) {
+            probe.due("lent before " + name, probe.told(herd + "debt a b 1 " + name + " 3;").ahead(9, 1, 0), 0);
+            String other = name.equals("t") ? "u" : "t";
+            probe.due("passed on to " + name, probe.told(herd + "debt a b 1 " + other + " 3;lean " + other + " " + name
+                + " 4;dies " + other + " 5;").ahead(9, 1, 0), 0);
+        }
     }
 
     private void aheadOfDays() {
@@ -175,6 +183,23 @@ final class EdgeAhead {
         // Nets 5, 7 less 2, 3, 3, 4: the greatest first would be 7 to 4, 5 to 3, 3 to 3, 2 to 2: two groups do.
         probe.due("two groups of three", gone(SIX + "debt a c 2 t 0;debt a d 3 t 0;debt b e 3 t 0;debt b f 4 t 0;", 1)
             .clear(), 4);
+        probe.due("1, and none of the first man", gone(SIX + "debt b c 1 t 0;", 1).clear(), 1);
+        probe.due("1 of the first man", gone(SIX + "debt b a 1 t 0;", 1).clear(), 1);
+        // The pairs may stand in any places.
+        String[] pairs = {"a f", "b e", "c d"};
+        String[] across = {"a d", "b e", "c f"};
+        for (String[] row : new String[][] {pairs, across}) {
+            TuskLedger x = gone(SIX + "debt " + row[0] + " 1 t 0;debt " + row[1] + " 2 t 0;debt " + row[2] + " 4 t 0;", 1);
+            probe.due("three pairs", x.clear(), 3);
+            x.pay(2);
+            probe.due("two pairs", x.clear(), 2);
+            x.undo();
+            x.pay(0);
+            probe.due("two other pairs", x.clear(), 2);
+            // a has 7, b less 5, the one who owes b less 2: these three are 0 in sum, and so is the pair.
+            x.lend(0, 1, 7, 0);
+            probe.due("a group of three and a pair", x.clear(), 3);
+        }
         // Nets 6, 3 less 4, 5: no group inside.
         probe.due("four men", gone(SIX + "debt a c 4 t 0;debt a d 2 t 0;debt b d 3 t 0;", 1).clear(), 3);
     }
@@ -214,6 +239,14 @@ final class EdgeAhead {
         probe.due("one, for a day", x.keep(0, 1), 1);
         x = gone(TWO + "debt a b 9 t 0;dies t 2;dies u 2;dies v 2;law pay known=3;", 1);
         probe.due("all three", x.keep(0, 2), 7);
+        x = gone(TWO + "tusk w 1 0;tusk x 1 0;tusk y 1 0;debt a b 9 t 0;dies t 2;dies u 2;dies v 2;dies w 2;dies x 2;"
+            + "dies y 2;law pay known=6;", 1);
+        probe.due("all six", x.keep(0, 2), 63);
+        // u tells t, who is left.
+        x = gone(TWO + "debt a b 9 u 0;lean u t 1;dies t 9;dies u 1;dies v 1;law pay known=1 and day=5;", 1);
+        probe.due("t itself", x.keep(0, 3), 1);
+        x = gone(TWO + "debt a b 9 u 0;lean u t 1;dies t 9;dies u 4;dies v 1;law pay known=2 and day=3;", 1);
+        probe.due("u and t know it, and it is PAID", x.keep(0, 20), 2);
         x = gone(TWO + "debt a b 9 t 0;law pay day=1;", 1);
         probe.due("nobody: it is PAID this day", x.keep(0, 1), 0);
         probe.due("who KNOWS it is as it was", x.debt(0, 7), 1);
@@ -463,7 +496,7 @@ final class EdgeAhead {
         dueLives("0 at least", probe.told("tusk t 3 0;"), 6, 1, 1);
         dueLives("below 0 is 0", probe.told("tusk t 3 0;law die 0-50;"), 6, 1, 1);
         dueLives("above 100 is 100", probe.told("tusk t 3 0;law die 150;"), 2, 0, 1);
-        dueLives("49", probe.told("tusk t 3 0;law die 50;"), 1, 1, 2);
+        dueLives("50 of a hundred", probe.told("tusk t 3 0;law die 50;"), 1, 1, 2);
         TuskLedger x = gone(TWO + "debt a b 9 t 0;dies t 5;law pay 0;law die knows*10+day;", 3);
         dueLives("all else as now", x, 2, 87 * 87, 10000);
     }
@@ -537,6 +570,8 @@ final class EdgeAhead {
         probe.sentence("Terms", "of several the one with fewest BUNS, of these the first.");
         dueBefore("fewest BUNS", probe.told("tusk t 1 9;tusk u 1 8;tusk v 1 7;tusk w 1 7;tusk x 1 8;"), 2, 99);
         dueBefore("the first", probe.told("tusk t 1 0;tusk u 1 0;"), 0, 99);
+        dueBefore("the last of six", probe.told(HERD + "tusk w 1 0;tusk x 1 0;tusk y 1 9;dies t 1;dies u 1;dies v 1;"
+            + "dies w 1;dies x 1;dies y 2;"), 5, 3);
         dueBefore("the longest goes ahead", probe.told("tusk t 1 0;tusk u 1 9;dies t 5;"), 1, 99);
     }
 
@@ -590,6 +625,9 @@ final class EdgeAhead {
         probe.due("the first of several", x.oldest(0), 2);
         x.go(1);
         probe.due("one died", x.oldest(0), 3);
+        x = gone("man a 9;man b 0;tusk s 7 0;tusk t 8 0;tusk u 5 0;tusk v 6 0;debt a b 1 t 0;lean t u 0;lean t v 0;"
+            + "lean t s 0;law pay 0;", 1);
+        probe.due("neither the first nor the last", x.oldest(0), 1);
     }
 
     private void oldestNone() {

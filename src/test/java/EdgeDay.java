@@ -89,6 +89,11 @@ final class EdgeDay {
         probe.due("DEBTOR", x.man(1, 0), 23);
         probe.due("OWED", x.debt(0, 6), 20);
         probe.due("KNOWS", x.debt(0, 7), 1);
+        // The buns are those of its own elephant.
+        x = gone("man a 29;man b 3;tusk s 1 0;tusk t 1 9;debt a b 20 t 0;law pay 0;", 1);
+        probe.due("LENDER", x.man(0, 0), 0);
+        x = gone("man a 28;man b 3;tusk s 1 9;tusk t 1 8;debt a b 20 t 0;law pay 0;", 1);
+        probe.due("LENDER", x.man(0, 0), 0);
         // By numbers: the debtor of the first one lends it on.
         x = gone("man a 5;man b 0;man c 0;tusk t 1 0;debt a b 5 t 0;debt b c 5 t 0;law pay 0;", 1);
         probe.due("OPEN", x.debt(1, 5), 1);
@@ -172,6 +177,14 @@ final class EdgeDay {
         x.gift(1, 1);
         x.go(1);
         probe.due("20 of 20", x.debt(0, 5), 2);
+        // Open for more than 5 days is as good.
+        for (String law : new String[] {"", "law pay 1/0;"}) {
+            x = gone("man a 90;man b 0;man c 0;tusk t 1 0;debt a b 20 t 0;debt b c 20 t 1;" + law, 6);
+            probe.due("open for 5 days, an empty purse", x.debt(0, 5), 1);
+            x.gift(1, 20);
+            x.go(1);
+            probe.due("open for 6 days", x.debt(0, 5), 2);
+        }
         // By numbers: what the first one pays is there for the second one, not the other way.
         x = gone("man a 20;man b 20;man c 0;tusk t 1 0;debt b c 20 t 0;debt a b 20 t 0;debt b a 20 t 0;law pay sum=20;", 1);
         probe.due("c pays b", x.debt(0, 5), 2);
@@ -277,16 +290,25 @@ final class EdgeDay {
         // Day 10: debt 0 has 20 and interest 2; t, 31, and u, 51, know it; b has 29 and 9.
         long[] pass = {22, 31, 36, 2, 9, 2, 10};
         long[] pay = {22, 51, 36, 2, 9, 0, 10};
+        long[] passByU = {22, 51, 36, 2, 9, 1, 10};
         long[] die = {0, 51, 0, 1, 0, 1, 10};
+        long[] dieOfT = {0, 31, 0, 2, 0, 2, 10};
         String head = "man a 90;man b 7;tusk t 30 1;tusk u 50 0;debt a b 20 t 1;debt a b 9 t 2;lean t u 1;rate 10;";
         for (int i = 0; i < names.length; i++) {
             probe.due("pass " + names[i], gone(head + "law pass " + names[i] + ";law pay 0;", 10).law(0, 0, 0), pass[i]);
+            probe.due("pass " + names[i] + " by u", gone(head + "law pass " + names[i] + ";law pay 0;", 10).law(0, 0, 1),
+                passByU[i]);
             // So that nothing is paid while it is asked, pay is 0 up to day 9.
             probe.due("pay " + names[i], gone(head + "law pay (day>9)*" + names[i] + ";", 10).law(1, 0, 0), pay[i]);
+            probe.due("die " + names[i] + " of t", gone(head + "law pay 0;law die (day>9)*" + names[i] + ";", 10)
+                .law(2, 0, 0), dieOfT[i]);
             probe.due("die " + names[i], gone(head + "law pay 0;law die (day>9)*" + names[i] + ";", 10).law(2, 0, 1), die[i]);
         }
         TuskLedger x = probe.told(head + "law pay age*10+known;law pass sum*100+known*10+days;");
         probe.due("age of none", x.law(1, 0, 0), 0);
+        x.lend(0, 1, 5, 0);
+        probe.due("age of the first elephant, who alone knows it", x.law(1, 2, 0), 301);
+        x.undo();
         probe.due("of one to come", x.law(0, 0, 0), 0);
     }
 
@@ -314,6 +336,10 @@ final class EdgeDay {
         dueE("not 0", 1);
         dueE("1<2", 1);
         dueE("2<2", 0);
+        dueE("3<2", 0);
+        dueE("1<=2", 1);
+        dueE("3>=2", 1);
+        dueE("1>2", 0);
         dueE("2<=2", 1);
         dueE("3<=2", 0);
         dueE("2=2", 1);
@@ -343,9 +369,11 @@ final class EdgeDay {
         dueE("0-" + most + "-1", ERROR);
         dueE("(" + most + ")*2", ERROR);
         dueE("(" + most + ")*(" + most + ")", ERROR);
-        // 2 to the 64 and more of it would be 0 of a long that wraps around.
-        dueE("(" + most + ")*8192*8192*8192", ERROR);
-        dueE("4096*4096*4096*4096*4096*16", ERROR);
+        // 2 to the 33 times 2 to the 31 would be 0 of a long that wraps around.
+        dueE("(4096*4096*512)*(4096*4096*128)", ERROR);
+        dueE("(0-4096*4096*512)*(4096*4096*128)", ERROR);
+        dueE("(4096*4096*512)*(0-4096*4096*128)", ERROR);
+        dueE("(0-4096*4096*512)*(0-4096*4096*128)", ERROR);
         dueE("(0-" + most + ")*(0-1)", 1000000000000L);
         dueE("(0-" + most + ")/(0-1)", 1000000000000L);
         dueE("(0-" + most + ")*(0-2)", ERROR);

@@ -287,7 +287,9 @@ final class EdgeSeen {
         probe.due("chance(0, 99, 0)", x.chance(0, 99, 0), timesAlive(0, 3, 0, 9));
         x.go(9);
         probe.due("from now", x.chance(5, 1, 2), timesAlive(5, 3, 2, 1));
-        x = gone("tusk t 1 0;tusk u 1 0;dies u 0;dies t 98;", 0);
+        x = probe.told("man a 9;man b 0;tusk t 1 0;debt a b 1 t 3;law pay 0;law die knows*100;");
+        probe.due("dies of what it comes to know", x.chance(0, 10, 0), 0);
+        x = probe.told("tusk t 1 0;tusk u 1 0;dies u 0;dies t 98;");
         probe.due("till day 97", x.chance(0, 98, 0), 10);
         probe.due("till day 98", x.chance(0, 99, 0), 0);
         x.go(1);
@@ -338,6 +340,10 @@ final class EdgeSeen {
         x = gone(TWO + "debt a b 5 t 0;law pay 0;law die 50;", 1);
         probe.due("by odds", x.tried(0, 0, 9), 1);
         probe.due("nobody dies", x.tried(1, 0, 99), 0);
+        // The first and the last of 8 are told, too.
+        x = gone(TWO + "debt a b 5 t 0;".repeat(8) + "dies t 3;law pay 0;", 1);
+        probe.due("as it goes", x.tried(0, 0, 9), 8);
+        probe.due("all KNOW all 8", x.tried(5, 0, 9), 0);
         // Only who is alive knows all.
         x = gone(TWO + "debt a b 5 t 0;dies v 0;dies t 3;dies u 3;law pay 0;", 1);
         probe.due("v died: nobody is left", x.tried(5, 0, 3), 1);
@@ -396,15 +402,16 @@ final class EdgeSeen {
         probe.due("the lending", x.undo(), 0);
         probe.due("DEBTS", x.count(2), 1);
         probe.due("PURSES", x.count(11), 99);
-        for (int i = 1; i <= 21; i++) {
-            x.gift(1, 1);
+        for (int i = 1; i <= 25; i++) {
+            x.gift(1, i);
             probe.due("gift " + i, x.count(14), Math.min(20, i));
         }
         for (int i = 19; i >= 0; i--) {
             probe.due("undo", x.undo(), i);
+            probe.due("the gifts of 1 to " + (i + 5), x.man(1, 0), 5 + (i + 5) * (i + 6) / 2);
         }
         probe.due("undo", x.undo(), -1);
-        probe.due("the first of 21 stays", x.man(1, 0), 6);
+        probe.due("the first five of 25 stay", x.man(1, 0), 20);
         x.gift(1, 1);
         x.go(0);
         probe.due("no DAY", x.count(14), 1);
@@ -414,7 +421,7 @@ final class EdgeSeen {
         x.go(1);
         probe.due("a DAY", x.count(14), 0);
         probe.due("undo", x.undo(), -1);
-        probe.due("it stays", x.man(1, 0), 7);
+        probe.due("it stays", x.man(1, 0), 21);
         x.lean(1, 2);
         probe.due("a leaning of which nothing comes is one, too", x.count(14), 1);
     }
@@ -538,6 +545,50 @@ final class EdgeSeen {
             probe.due("count(" + what + ")", x.count(what), want[what]);
         }
         probe.due("of a new object: count(13)", new TuskLedger().count(13), 0);
+        x = full();
+        int[] most = {6, 6, 8, 64, 100, 8, 0, 0, 0, 6, 8 * 99, 6 * 999 - 8 * 9, 24, 24, 0};
+        for (int what = 0; what <= 14; what++) {
+            probe.due("of a full one: count(" + what + ")", x.count(what), most[what]);
+        }
+        for (int man = 0; man < 6; man++) {
+            int net = man == 0 ? 2 * 99 : man == 5 ? -2 * 99 : 0;
+            probe.due("of a full one: NET of " + man, x.man(man, 1), net);
+        }
+        for (int tusk = 0; tusk < 6; tusk++) {
+            probe.due("of a full one: KNOWS, " + tusk, x.tusk(tusk, 3), tusk == 0 || tusk == 5 ? 255 : 0);
+            probe.due("of a full one: alone, " + tusk, x.tusk(tusk, 4), 0);
+        }
+        probe.due("of a full one: clear", x.clear(), 1);
+        probe.due("of a full one: ring", x.ring(), 63);
+        probe.due("of a full one: order", x.order(4), 4 * 99);
+        probe.due("of a full one: had", x.had(5), ALL);
+        probe.due("of a full one: lean", x.lean(0, 1), 8);
+        for (int debt = 0; debt < 6; debt++) {
+            x.pay(debt);
+        }
+        probe.due("two left: order(0)", x.order(0), 6);
+        probe.due("two left: order(1)", x.order(1), 7);
+        probe.due("two left: order(2)", x.order(2), -2);
+        probe.due("two left: keep", x.keep(7, 60), 1);
+    }
+
+    /** As many of all as there can be: six men in a ring, and two debts more, all lent before the last elephant. */
+    private TuskLedger full() {
+        StringBuilder text = new StringBuilder();
+        for (char name = 'a'; name <= 'f'; name++) {
+            text.append("man ").append(name).append(" 999;tusk ").append(name).append(" 0 9;");
+        }
+        for (String pair : new String[] {"a b", "b c", "c d", "d e", "e f", "f a", "a f", "a f"}) {
+            text.append("debt ").append(pair).append(" 99 f 0;");
+        }
+        text.append("lean f a 0;".repeat(10)).append("law pay 0").append("*1".repeat(31)).append(";law die 0;");
+        TuskLedger x = probe.told(text.toString());
+        x.go(99);
+        x.go(1);
+        for (int i = 0; i < 24; i++) {
+            x.see(40, 7, false);
+        }
+        return x;
     }
 
     private void countNone() {

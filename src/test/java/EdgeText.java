@@ -39,6 +39,7 @@ final class EdgeText {
         feedFull();
         textOfTape();
         textAnew();
+        textForgets();
         textWithFault();
         textRefused();
         faultOfLatest();
@@ -78,9 +79,31 @@ final class EdgeText {
             probe.wrong(cut + "^1;", 1);
             probe.wrong(cut + "^c;", 1);
         }
+        for (String none : new String[] {"1", ";", "man", "sum", "(", "#"}) {
+            probe.wrong(TWO + "man ^" + none + " 1;", 1);
+            probe.wrong(TWO + "tusk ^" + none + " 1 1;", 1);
+            probe.wrong(TWO + "debt ^" + none + " b 1 t 1;", 1);
+            probe.wrong(TWO + "debt a ^" + none + " 1 t 1;", 1);
+            probe.wrong(TWO + "debt a b 1 ^" + none + " 1;", 1);
+            probe.wrong(TWO + "lean ^" + none + " u 1;", 1);
+            probe.wrong(TWO + "lean t ^" + none + " 1;", 1);
+            probe.wrong(TWO + "dies ^" + none + " 1;", 1);
+        }
+        for (String none : new String[] {"a", "t", ";", "man", "sum", "(", "#"}) {
+            probe.wrong(TWO + "man c ^" + none + ";", 1);
+            probe.wrong(TWO + "tusk v ^" + none + " 1;", 1);
+            probe.wrong(TWO + "tusk v 1 ^" + none + ";", 1);
+            probe.wrong(TWO + "debt a b ^" + none + " t 1;", 1);
+            probe.wrong(TWO + "debt a b 1 t ^" + none + ";", 1);
+            probe.wrong(TWO + "lean t u ^" + none + ";", 1);
+            probe.wrong(TWO + "dies t ^" + none + ";", 1);
+            probe.wrong(TWO + "rate ^" + none + ";", 1);
+            probe.wrong(TWO + "seed ^" + none + ";", 1);
+        }
         for (String word : LANGUAGE) {
             if (!word.equals("pass") && !word.equals("pay") && !word.equals("die")) {
                 probe.wrong("law ^" + word + " 1;", 1);
+                probe.wrong("law pass 1;law pay 1;law die 1;law ^" + word + " 1;", 1);
             }
         }
         probe.wrong("law ^1 1;", 1);
@@ -136,6 +159,16 @@ final class EdgeText {
         probe.wrong("law pay ^and 1;", 1);
         probe.wrong("law pay 1 or ^or 1;", 1);
         probe.wrong("law pay 1 and ^;", 1);
+        // What is joined first: signs of T, then of S, comparisons, not, and, or; alike ones from the left.
+        dueLaw("1 or 0 and 0", 1);
+        dueLaw("0 and 0 or 1", 1);
+        dueLaw("not 0 and 0", 0);
+        dueLaw("not 1 or 1", 1);
+        dueLaw("not 1=2", 1);
+        dueLaw("not 0<0", 1);
+        dueLaw("2 and 1<1", 0);
+        dueLaw("1<1+1", 1);
+        dueLaw("0=1 or 1", 1);
     }
 
     private void partsOfE() {
@@ -153,6 +186,15 @@ final class EdgeText {
         probe.wrong("law pay (1^;", 1);
         probe.wrong("law pay 1^);", 1);
         probe.wrong("law pay ^;", 1);
+        dueLaw("9999", 9999);
+        dueLaw("1+2*3", 7);
+        dueLaw("2*3+1", 7);
+        dueLaw("(1+2)*3", 9);
+        dueLaw("9-3-2", 4);
+        dueLaw("9-(3-2)", 8);
+        dueLaw("8/4/2", 1);
+        dueLaw("8/4*2", 4);
+        dueLaw("8-6/2", 5);
     }
 
     private void namesOfE() {
@@ -375,6 +417,10 @@ final class EdgeText {
         probe.due("text(10) of man abcdefg 1;", x.text(10), -1);
         probe.due("fault(0)", x.fault(0), 1);
         probe.due("fault(1)", x.fault(1), 10);
+        Probe.feed(x, "man a 1000;");
+        probe.due("text(9) of man a 1000;", x.text(9), -1);
+        probe.due("fault(0)", x.fault(0), 1);
+        probe.due("fault(1)", x.fault(1), 9);
         // A text of the whole tape.
         String full = " ".repeat(697) + "man";
         TuskLedger y = new TuskLedger();
@@ -538,6 +584,54 @@ final class EdgeText {
         probe.due("IMAGE", x.back(), -1);
         probe.due("undo", x.undo(), -1);
         probe.due("nothing to undo", x.count(14), 0);
+    }
+
+    /** Everything of every kind, and with it nothing of what was told ahead, by texts that were right or wrong. */
+    private void textForgets() {
+        probe.sentence("3", "are the TEXT (DAY 0, all ALIVE,");
+        String all = "man a 50;man b 1;tusk t 90 3;tusk u 9 0;debt a b 5 t 0;debt a b 6 u 0;lean t u 0;lean t u 0;dies u 0;dies t 1;"
+            + "rate 100;seed 77;law pay 0;law pass 0;law die 100;";
+        String few = "man a 50;man b 1;tusk t 90 0;tusk u 9 0;tusk v 5 0;debt a b 7 t 0;lean t v 0;";
+        TuskLedger x = new TuskLedger();
+        for (int i = 0; i < 4; i++) {
+            probe.due("text of much", Probe.tell(x, all), 15);
+            probe.due("text of much", Probe.tell(x, all), 15);
+            if (i % 2 == 1) {
+                x.go(20);
+                probe.due("text with a fault behind much", Probe.tell(x, all + "rate"), -1);
+            }
+            probe.due("text of few", Probe.tell(x, few), 7);
+            probe.due("KNOTS", x.count(3), 0);
+            probe.due("DEBTS", x.count(2), 1);
+            probe.due("ALIVE", x.count(9), 3);
+            probe.due("nobody KNOWS", x.debt(0, 7), 0);
+            probe.due("TO COME", x.debt(0, 5), 0);
+            for (int what = 0; what < 3; what++) {
+                probe.due("law " + what, x.law(what, 0, 0), Long.MIN_VALUE);
+            }
+            probe.due("the numbers", x.chance(0, 10, 0), 10 - deadOfTen(31));
+            x.go(2);
+            probe.due("none died", x.count(9), 3);
+            probe.due("passed on by one leaning", x.debt(0, 7), 5);
+            probe.due("without buns", x.man(0, 0), 43);
+            probe.due("no rate", x.ahead(12, 3, 0), 50);
+            x.go(8);
+            probe.due("by the first number of seed 0 t dies", x.tusk(0, 2), 0);
+            probe.due("u", x.tusk(1, 2), 1);
+            Probe.tell(x, "tusk t 1 0;dies t 5;rate 1;seed 1;");
+            probe.due("rate, seed and a death can be told again", x.fault(0), 0);
+        }
+    }
+
+    /** How many of ten numbers behind seed 0 are below the odds, one each. */
+    private static int deadOfTen(int odds) {
+        long number = 0;
+        int dead = 0;
+        for (int i = 0; i < 10; i++) {
+            number = (number * 1103515245L + 12345L) % 2147483648L;
+            dead += number / 65536 % 100 < odds ? 1 : 0;
+        }
+        return dead;
     }
 
     private void textWithFault() {
