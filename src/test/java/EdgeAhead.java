@@ -200,6 +200,7 @@ final class EdgeAhead {
             x.lend(0, 1, 7, 0);
             probe.due("a group of three and a pair", x.clear(), 3);
         }
+        probe.due("two are owed 1, one owes 2", gone(SIX + "debt a c 1 t 0;debt b c 1 t 0;", 1).clear(), 2);
         // Nets 6, 3 less 4, 5: no group inside.
         probe.due("four men", gone(SIX + "debt a c 4 t 0;debt a d 2 t 0;debt b d 3 t 0;", 1).clear(), 3);
     }
@@ -548,9 +549,17 @@ final class EdgeAhead {
             + "all else as ever (other DEBTS lent, passed on, PAID);");
         dueBefore("whatever E of pass", probe.told(HERD + "dies t 3;dies u 9;dies v 2;lean v u 1;law pass 0;"), 1, 10);
         dueBefore("passed on", probe.told("tusk t 1 0;tusk u 1 1;dies t 3;dies u 9;lean t u 3;law pass 0;"), 0, 10);
+        dueBefore("passed on by the second one", probe.told("tusk t 1 0;tusk u 1 0;tusk v 1 1;dies t 1;dies u 3;dies v 9;"
+            + "lean u v 3;"), 1, 10);
+        dueBefore("who passes it on KNOWS it yet", probe.told("tusk t 1 0;tusk u 1 0;lean t u 1;dies u 3;"), 0, 99);
         dueBefore("behind its death none leans", probe.told("tusk t 1 0;tusk u 1 1;dies t 3;dies u 9;lean t u 4;"), 1, 10);
         dueBefore("it isn't PAID", probe.told(TWO + "law pay 1;"), 0, 99);
         dueBefore("not counted in E of die", probe.told("tusk t 1 0;law die (knows+known)*100;"), 0, 99);
+        TuskLedger eight = probe.told("man a 99;man b 0;tusk t 1 0;tusk u 1 0;lean t u 3;law die (knows>0 or known>0)*100;");
+        for (int i = 0; i < 8; i++) {
+            eight.lend(0, 1, 1, 1);
+        }
+        dueBefore("not counted with 8 DEBTS", eight, 0, 99);
         // Told of one more it would die: u of the debt that is lent before it on day 3; paid on day 8, it lives.
         String world = "man a 9;man b 0;tusk t 1 1;tusk u 1 0;debt a b 1 u 3;dies t 60;law die knows*100;";
         dueBefore("other DEBTS lent", probe.told(world + "law pay 0;"), 0, 61);

@@ -369,8 +369,12 @@ final class EdgeDay {
         dueE("0-" + most + "-1", ERROR);
         dueE("(" + most + ")*2", ERROR);
         dueE("(" + most + ")*(" + most + ")", ERROR);
+        dueE("4096*4096*1024", 17179869184L);
+        dueE("(0-4096*4096)*1024", -17179869184L);
         // 2 to the 33 times 2 to the 31 would be 0 of a long that wraps around.
         dueE("(4096*4096*512)*(4096*4096*128)", ERROR);
+        dueE("(4096*4096*1024)*(4096*4096*64)", ERROR);
+        dueE("(4096*4096*256)*(4096*4096*256)", ERROR);
         dueE("(0-4096*4096*512)*(4096*4096*128)", ERROR);
         dueE("(4096*4096*512)*(0-4096*4096*128)", ERROR);
         dueE("(0-4096*4096*512)*(0-4096*4096*128)", ERROR);
@@ -621,6 +625,14 @@ final class EdgeDay {
         probe.due("with an ERROR", x.lean(0, 1), 1);
         x = gone(TWO + "debt a b 1 t 0;".repeat(8) + "law pay 0;", 1);
         probe.due("all 8", x.lean(0, 1), 8);
+        // Now, whatever was asked of other days just ahead of it.
+        x = gone(TWO + "debt a b 5 t 0;dies t 3;law pay 0;", 1);
+        x.tried(2, 1, 9);
+        probe.due("behind what was tried", x.lean(0, 1), 1);
+        probe.due("debt(0, 7)", x.debt(0, 7), 3);
+        x.ahead(9, 0, 0);
+        probe.due("behind what is ahead", x.lean(0, 2), 1);
+        probe.due("debt(0, 7)", x.debt(0, 7), 7);
     }
 
     private void leanNone() {
@@ -687,6 +699,7 @@ final class EdgeDay {
             probe.due("gift(" + none + ", 1)", x.gift(none, 1), -1);
         }
         probe.due("nothing to undo", x.count(14), 0);
+        // No purse comes so far in 512 calls; what these here answer is free, and is as if they were not the last ones.
         for (int i = 1; i <= 999; i++) {
             x.gift(0, 99);
         }

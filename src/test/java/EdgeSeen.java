@@ -344,6 +344,11 @@ final class EdgeSeen {
         x = gone(TWO + "debt a b 5 t 0;".repeat(8) + "dies t 3;law pay 0;", 1);
         probe.due("as it goes", x.tried(0, 0, 9), 8);
         probe.due("all KNOW all 8", x.tried(5, 0, 9), 0);
+        // What is to come, refused, paid isn't OPEN: t, who would die of a debt that it KNOWS, KNOWS nothing of it.
+        x = gone(TWO + "debt a b 5 u 0;debt a b 6 u 50;debt b a 99 u 0;debt a b 7 u 0;dies u 3;dies v 3;"
+            + "law pay sum=7;law die (knows>1)*100;", 1);
+        probe.due("all KNOW what is OPEN", x.tried(5, 0, 20), 0);
+        probe.due("as it goes", x.tried(0, 0, 20), 1);
         // Only who is alive knows all.
         x = gone(TWO + "debt a b 5 t 0;dies v 0;dies t 3;dies u 3;law pay 0;", 1);
         probe.due("v died: nobody is left", x.tried(5, 0, 3), 1);

@@ -226,6 +226,11 @@ final class EdgeText {
         probe.wrong("law pay 2=^=2;", 1);
         probe.wrong("law pay 2<>^=2;", 1);
         probe.wrong("law pay 2<=^=2;", 1);
+        // The pair is one sign at the very end of a text, too, and of the tape.
+        for (String pair : new String[] {"<=", "<>", ">="}) {
+            probe.wrong("law pay 2" + pair + "^", 1);
+            probe.wrong(" ".repeat(689) + "law pay 2" + pair + "^", 1);
+        }
         // What stands on the tape behind the text doesn't belong to its last sign.
         TuskLedger x = new TuskLedger();
         Probe.feed(x, "law pay 2<=2;");
@@ -453,6 +458,9 @@ final class EdgeText {
         probe.wrong("law pay " + sixtyThree + ";law die not ^1;", 2);
         probe.wrong("law pay " + sixtyThree + ";law die not ^age;", 2);
         probe.wrong("law pay " + sixtyThree + ";law die 1;law pass ^1;", 2);
+        probe.right("law pay " + "not ".repeat(63) + "1;", 1);
+        probe.wrong("law pay " + "not ".repeat(64) + "^1;", 2);
+        probe.wrong("law pay " + "not ".repeat(64) + "^not 1;", 2);
         probe.due("one each", probe.told("law pay not sum+1 and age<=2 or (day);").count(3), 10);
     }
 
@@ -584,25 +592,35 @@ final class EdgeText {
         probe.due("IMAGE", x.back(), -1);
         probe.due("undo", x.undo(), -1);
         probe.due("nothing to undo", x.count(14), 0);
+        for (int i = 0; i < 2; i++) {
+            probe.due("text(0)", x.text(0), 0);
+            for (int what = 0; what <= 14; what++) {
+                probe.due("of no LINES: count(" + what + ")", x.count(what), 0);
+            }
+        }
     }
 
     /** Everything of every kind, and with it nothing of what was told ahead, by texts that were right or wrong. */
     private void textForgets() {
         probe.sentence("3", "are the TEXT (DAY 0, all ALIVE,");
-        String all = "man a 50;man b 1;tusk t 90 3;tusk u 9 0;debt a b 5 t 0;debt a b 6 u 0;lean t u 0;lean t u 0;dies u 0;dies t 1;"
-            + "rate 100;seed 77;law pay 0;law pass 0;law die 100;";
-        String few = "man a 50;man b 1;tusk t 90 0;tusk u 9 0;tusk v 5 0;debt a b 7 t 0;lean t v 0;";
+        String all = "man a 50;man b 1;man c 2;man d 4;tusk t 90 3;tusk u 9 0;tusk x 9 0;tusk y 9 0;debt a b 5 t 0;"
+            + "debt a b 6 u 0;debt c d 1 x 0;lean t u 0;lean t u 0;dies u 0;dies t 1;rate 100;seed 77;law pay 0;"
+            + "law pass 0;law die 100;";
+        String few = "man a 50;man b 1;tusk t 90 0;tusk u 9 0;tusk v 5 0;debt a b 7 t 0;debt a b 10 u 8;lean t v 0;";
         TuskLedger x = new TuskLedger();
         for (int i = 0; i < 4; i++) {
-            probe.due("text of much", Probe.tell(x, all), 15);
-            probe.due("text of much", Probe.tell(x, all), 15);
+            probe.due("text of much", Probe.tell(x, all), 20);
+            probe.due("text of much", Probe.tell(x, all), 20);
             if (i % 2 == 1) {
                 x.go(20);
                 probe.due("text with a fault behind much", Probe.tell(x, all + "rate"), -1);
             }
-            probe.due("text of few", Probe.tell(x, few), 7);
+            probe.due("text of few", Probe.tell(x, few), 8);
+            probe.due("MEN", x.count(0), 2);
+            probe.due("ELEPHANTS", x.count(1), 3);
             probe.due("KNOTS", x.count(3), 0);
-            probe.due("DEBTS", x.count(2), 1);
+            probe.due("DEBTS", x.count(2), 2);
+            probe.due("PURSES in sum", x.count(11), 51);
             probe.due("ALIVE", x.count(9), 3);
             probe.due("nobody KNOWS", x.debt(0, 7), 0);
             probe.due("TO COME", x.debt(0, 5), 0);
@@ -614,8 +632,8 @@ final class EdgeText {
             probe.due("none died", x.count(9), 3);
             probe.due("passed on by one leaning", x.debt(0, 7), 5);
             probe.due("without buns", x.man(0, 0), 43);
-            probe.due("no rate", x.ahead(12, 3, 0), 50);
             x.go(8);
+            probe.due("no rate", x.debt(1, 6), 10);
             probe.due("by the first number of seed 0 t dies", x.tusk(0, 2), 0);
             probe.due("u", x.tusk(1, 2), 1);
             Probe.tell(x, "tusk t 1 0;dies t 5;rate 1;seed 1;");
