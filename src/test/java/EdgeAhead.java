@@ -214,6 +214,11 @@ final class EdgeAhead {
         probe.due("OPEN", x.clear(), 1);
         x.pay(0);
         probe.due("PAID", x.clear(), 0);
+        // What an earlier text's men owed is nobody's any more.
+        x.undo();
+        probe.due("OPEN again", x.clear(), 1);
+        x.text(0);
+        probe.due("of no MEN", x.clear(), 0);
     }
 
     private void keep() {
